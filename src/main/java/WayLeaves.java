@@ -1072,6 +1072,7 @@ public final class WayLeaves {
             return (land.told[COST][plot] + hold) * COST_UNIT + 1;
         }
 
+        /** Goes over the grid to and fro, so that few rounds are needed. */
         private void spreadFrom(int to) {
             Arrays.fill(totals, FAR);
             if (weights[to] == BARRED) return;
@@ -1079,8 +1080,8 @@ public final class WayLeaves {
             boolean changed = true;
             for (int round = 0; round < PLOTS && changed; round++) {
                 changed = false;
-                for (int plot = 0; plot < PLOTS; plot++) {
-                    if (lessen(plot)) changed = true;
+                for (int i = 0; i < PLOTS; i++) {
+                    if (lessen(round % 2 == 0 ? i : PLOTS - 1 - i)) changed = true;
                 }
             }
         }

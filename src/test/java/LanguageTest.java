@@ -98,6 +98,10 @@ public final class LanguageTest {
             Matcher m = Pattern.compile(word).matcher(code);
             check(!m.find(), "the source has " + word);
         }
+        for (String line : code.split("\n")) {
+            boolean once = line.matches(" {8}(final .* = new .*|[a-z]+ = new [A-Z][a-z]+\\(.*\\);)");
+            check(!line.contains("new ") || once, "made in a call: " + line);
+        }
         int begin = 0;
         String[] lines = all.split("\n");
         for (int i = 0; i < lines.length; i++) {

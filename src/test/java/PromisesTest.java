@@ -151,6 +151,13 @@ public final class PromisesTest {
         x.heir(0, 4, 0);
         x.heir(0, 7, 0);
         due(100, x.yearly(0, 0));
+        // OWNER 0 as an heir, the least one.
+        x.heir(1, 0, 0);
+        x.sell(8, 6, 0);
+        x.heir(6, 0, 1);
+        x.heir(6, 9, 2);
+        due(34, x.yearly(0, 0));
+        due(66, x.yearly(9, 0));
     }
 
     private static void set() {
@@ -208,6 +215,8 @@ public final class PromisesTest {
         due(29 - 7, x.spanTold(0, 4));
         x.set(8, 0, 8);
         due(29 - 8, x.spanTold(0, 4));
+        due(7, x.trees(8, 0, 0));
+        due(0, x.high(8));
     }
 
     private static void tower() {
@@ -279,6 +288,13 @@ public final class PromisesTest {
         due(1, x.spanTold(0, 5));
         due(0, x.spanTold(0, 6));
         due(1, x.spanTold(0, 7));
+        x.span(0, 1, 10, 333);
+        x.span(0, 1, 10, 500);
+        x.heat(1, 23);
+        due(11, x.spanTold(1, 2));
+        x.heat(2, 90);
+        due(25 + 35, x.spanTold(2, 2));
+        x = withSpans(8);
         // Both quotients are cut toward 0, each for itself.
         x.span(0, 1, 9, 199);
         due(3, x.spanTold(1, 2));
@@ -323,6 +339,40 @@ public final class PromisesTest {
         due(850 + 1825, x.spanTold(1, 6));
         x.sell(9, 0, 950);
         due(850 + 1825, x.spanTold(1, 6));
+        // UNDONE ahead of the end of what HANGS on it.
+        WayLeaves y = withSpans(8);
+        y.leave(4, 0, 0, 0, -1);
+        y.leave(0, 0, 0, 0, 0);
+        y.appeal(0);
+        due(1825, y.spanTold(0, 6));
+        y.undo(0, 400);
+        due(400, y.spanTold(0, 6));
+        y.leave(0, 0, 0, 399, -1);
+        due(399 + 365, y.spanTold(0, 6));
+    }
+
+    private static void allFull() {
+        WayLeaves x = withSpans(8);
+        for (int i = 0; i < 40; i++) due(i + 1, x.sell(8, i % 10, 10 * i));
+        for (int i = 0; i < 24; i++) due(i, x.leave(i == 0 ? 4 : 1, 0, 1500, 16 * i, i - 1));
+        due(9, x.owner(8, 9999));
+        due(2, x.has(0, 15));
+        due(1, x.has(0, 16));
+        due(1825, x.spanTold(0, 6));
+        due(100, x.yearly(9, 399));
+        due(1, x.leaveTold(0, 6));
+        due(0, x.leaveTold(23, 6));
+        due(1, x.appeal(0));
+        due(23, x.undo(0, 200));
+        due(200, x.spanTold(0, 6));
+        due(0, x.yearly(9, 399));
+        // Each LEAVE ends with a SALE, and the next one begins with it.
+        WayLeaves y = withSpans(8);
+        for (int i = 0; i < 24; i++) y.sell(8, i % 9, 10 * i);
+        for (int i = 0; i < 24; i++) y.leave(0, 0, 0, 10 * i, -1);
+        due(23 * 10 + 365, y.spanTold(0, 6));
+        y.sell(8, 9, 235);
+        due(235, y.spanTold(0, 6));
     }
 
     private static void leave() {
@@ -597,6 +647,22 @@ public final class PromisesTest {
         due(4, x.count(8));
     }
 
+    private static void longTexts() {
+        due(0, fault(";".repeat(160)));
+        due(0, fault("(".repeat(160)));
+        due(0, fault("a".repeat(160)));
+        due(0, fault("1".repeat(160)));
+        due(160, fault("pays 1" + "+1".repeat(77)));
+        String s = "pays 1;sum 1" + "+1".repeat(73);
+        WayLeaves x = withSpans(8);
+        due(159, feed(x, s + ";"));
+        due(1, x.text());
+        x.force(1);
+        due(74, x.says(0, 1));
+        due(1, x.says(0, 0));
+        due(74, sum("1" + "+1".repeat(73)));
+    }
+
     private static void faults() {
         due(0, fault(""));
         due(2, fault("  "));
@@ -618,6 +684,10 @@ public final class PromisesTest {
         due(5, fault("pays sum;sum 1;"));
         due(5, fault("pays high;sum 1;"));
         due(5, fault("pays dayx;sum 1;"));
+        due(5, fault("pays bay;sum 1;"));
+        due(5, fault("pays da;sum 1;"));
+        due(5, fault("pays dot 1;sum 1;"));
+        due(0, fault("says 1;sum 1;"));
         due(5, fault("pays 12345;sum 1;"));
         due(5, fault("pays 00001;sum 1;"));
         due(-101, fault("pays 0001;sum 1;"));
@@ -787,6 +857,7 @@ public final class PromisesTest {
         due(FULL, x.claim(1, 0, 5));
         due(BAD, x.claim(10, 0, 5));
         due((1 << 30) - 1 - 7, x.doubled());
+        due(1000, x.due(1));
         due(30, x.count(5));
     }
 
@@ -796,11 +867,22 @@ public final class PromisesTest {
         due(NO, x.due(10));
         due(0, x.due(0));
         x.claim(1, 0, 300);
+        x.claim(1, 1, 900);
+        x.claim(1, 1, 5000);
+        x.claim(2, 2, 50);
+        due(1200, x.due(1));
+        due(50, x.due(2));
+        x.claim(1, 2, 2000);
+        due(2200, x.due(1));
+        x.set(10, 1, 500);
+        due(2700, x.due(1));
+        x.leave(1, 2, 0, 0, -1);
+        due(1200, x.due(1));
+        x = withSpans(8, 9, 10);
+        x.claim(1, 0, 300);
         x.claim(1, 1, 2000);
         x.claim(1, 1, 5000);
         x.claim(2, 2, 50);
-        due(1300, x.due(1));
-        due(50, x.due(2));
         x.set(9, 1, 500);
         due(1800, x.due(1));
         x.leave(0, 0, 0, 0, -1);
@@ -901,6 +983,9 @@ public final class PromisesTest {
         wayIs(x, 0, 18, 50, 0, 1, 2, 10, 18);
         wayIs(x, 18, 0, 50, 18, 10, 2, 1, 0);
         wayIs(x, 17, 8, 30, 17, 9, 8);
+        wayIs(x, 8, 0, 20, 8, 0);
+        wayIs(x, 39, 47, 20, 39, 47);
+        wayIs(x, 47, 46, 20, 47, 46);
         wayIs(x, 7, 8, 90, 7, 6, 5, 4, 3, 2, 1, 0, 8);
         wayIs(x, 0, 47, 130, 0, 1, 2, 3, 4, 5, 6, 7, 15, 23, 31, 39, 47);
         // Of like costs the fewest PLOTS.
@@ -973,7 +1058,8 @@ public final class PromisesTest {
         due(BAD, x.asking(0, 61));
         due(1, x.asking(0, 60));
         due(60, x.spanTold(0, 7));
-        due(60, x.asking(0, 2));
+        due(60, x.asking(0, 1));
+        due(1, x.asking(0, 2));
     }
 
     private static void orderIs(WayLeaves x, int bits, int late, int... spans) {
@@ -1213,6 +1299,7 @@ public final class PromisesTest {
         check("promise 11", PromisesTest::heat);
         check("promise 12", PromisesTest::spanTold);
         check("promise 12, ENDS", PromisesTest::ends);
+        check("promises 3, 13, full", PromisesTest::allFull);
         check("promise 13", PromisesTest::leave);
         check("promise 14", PromisesTest::leaveTold);
         check("promise 15", PromisesTest::renew);
@@ -1223,6 +1310,7 @@ public final class PromisesTest {
         check("promises 19, 26", PromisesTest::partsOfAllTogether);
         check("promise 20", PromisesTest::feed);
         check("promise 21", PromisesTest::text);
+        check("promise 21, long", PromisesTest::longTexts);
         check("promise 21, FAULT", PromisesTest::faults);
         check("promise 21, open", PromisesTest::openOnes);
         check("promise 23, values", PromisesTest::values);
