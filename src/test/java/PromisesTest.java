@@ -1,55 +1,5 @@
 /** Each promise by plain runs of calls: ordinary inputs, edges, and each refusal that it names. */
-public final class PromisesTest {
-    private static final int NONE = -1, BAD = -2, STATE = -3, FULL = -4;
-    private static final long NO = -4611686018427387904L;
-    private static final int MIN = Integer.MIN_VALUE, MAX = Integer.MAX_VALUE;
-    private static int wrong = 0;
-    private static String promise = "";
-
-    private static void due(long want, long got) {
-        if (got == want) return;
-        wrong++;
-        StackTraceElement at = Thread.currentThread().getStackTrace()[2];
-        System.out.println(promise + ", line " + at.getLineNumber() + ": answered " + got + ", due is " + want);
-    }
-
-    /** Two TOWERS of 40 and 30, and a SPAN over each told PLOT, 100 LONG. */
-    private static WayLeaves withSpans(int... plots) {
-        WayLeaves x = new WayLeaves();
-        x.tower(0, 40);
-        x.tower(9, 30);
-        for (int plot : plots) x.span(0, 1, plot, 100);
-        return x;
-    }
-
-    private static int feed(WayLeaves x, String s) {
-        int size = x.count(8);
-        for (int i = 0; i < s.length(); i++) size = x.feed(1, s.charAt(i));
-        return size;
-    }
-
-    private static int text(WayLeaves x, String s) {
-        feed(x, s);
-        return x.text();
-    }
-
-    /** What a sum comes to over SPAN 0. */
-    private static long sum(WayLeaves x, String e) {
-        int text = text(x, "pays 0;sum " + e + ";");
-        if (text < 0) return text;
-        x.force(text);
-        return x.says(0, 1);
-    }
-
-    private static long sum(String e) {
-        return sum(withSpans(8), e);
-    }
-
-    /** The place of the FAULT; 0 or less: there is none. */
-    private static int fault(String s) {
-        return -100 - text(new WayLeaves(), s);
-    }
-
+public final class PromisesTest extends Checks {
     private static void aNewObject() {
         WayLeaves x = new WayLeaves();
         for (int what = 0; what < 12; what++) due(what == 7 ? 1 : 0, x.count(what));
@@ -1278,15 +1228,6 @@ public final class PromisesTest {
         }
     }
 
-    private interface Run {
-        void go();
-    }
-
-    private static void check(String name, Run run) {
-        promise = name;
-        run.go();
-    }
-
     public static void main(String[] args) {
         check("promise 1", PromisesTest::aNewObject);
         check("promise 2", PromisesTest::pass);
@@ -1332,7 +1273,6 @@ public final class PromisesTest {
         check("promise 37", PromisesTest::copy);
         check("promise 38", PromisesTest::costs);
         check("promise 39", PromisesTest::taken);
-        System.out.println(wrong == 0 ? "all answers are as due" : wrong + " answers are not as due");
-        if (wrong != 0) System.exit(1);
+        endOfTest();
     }
 }
