@@ -1032,7 +1032,7 @@ public final class WayLeaves {
 
         int boundOf(int plot, int what) {
             int lower = NONE;
-            int upper = Integer.MAX_VALUE;
+            int upper = 2 * MOST_MONEY;
             for (int i = 0; i < count; i++) {
                 if (plots[i] == plot) {
                     lower = Math.max(lower, lowers[i]);
@@ -1047,7 +1047,7 @@ public final class WayLeaves {
 
     /** THE WAY over the grid. A weight holds the cost in its upper bits and counts the PLOT in its lower ones. */
     private static final class Ways {
-        private static final int COST_UNIT = 64, BARRED = -1, FAR = Integer.MAX_VALUE, SIDES = 4;
+        private static final int COST_UNIT = 64, BARRED = -1, FAR = 2147483647, SIDES = 4;
 
         final Land land;
         final int[] weights = new int[PLOTS];

@@ -138,6 +138,12 @@ public final class LandBoundariesTest extends Checks {
         // All nine others, each with the most.
         for (int owner = 1; owner < 10; owner++) x.heir(0, owner, 99);
         partsAre(x, 0, 3, 1, 1, 1, 1, 1, 1, 1, 1);
+        // OWNER 0 is the least that there is.
+        WayLeaves z = paying(11);
+        z.sell(8, 5, 0);
+        z.heir(5, 0, 1);
+        z.heir(5, 1, 1);
+        partsAre(z, 6, 5, 0, 0, 0, 0, 0, 0, 0, 0);
         // A ring: heirs' own SHARES don't count for what comes by SHARES.
         WayLeaves y = paying(11);
         y.heir(0, 1, 1);
@@ -272,7 +278,7 @@ public final class LandBoundariesTest extends Checks {
 
     private static void sag() {
         WayLeaves x = withSpans();
-        for (int length : new int[] {50, 100, 141, 142, 600}) x.span(0, 1, 8, length);
+        for (int length : new int[] {50, 100, 141, 142, 600, 54}) x.span(0, 1, 8, length);
         // Each of the two quotients is cut toward 0 for itself, and only both together are 0 at least.
         sagIs(x, 0, 20, 0);
         sagIs(x, 0, 39, 0);
@@ -294,6 +300,8 @@ public final class LandBoundariesTest extends Checks {
         sagIs(x, 4, 20, 36);
         sagIs(x, 4, 90, 36 + 42);
         sagIs(x, 4, -20, 36 - 24);
+        sagIs(x, 5, 57, 1);
+        sagIs(x, 5, 58, 2);
     }
 
     private static void nearAndTooNear() {
@@ -356,6 +364,34 @@ public final class LandBoundariesTest extends Checks {
         due(2, y.leave(1, 0, 0, 9999, -1));
         due(NONE, y.spanTold(0, 6));
         due(0, y.count(10));
+    }
+
+    private static void endsFromTheDayOn() {
+        // What ends in DAY itself, or ended ahead of it, is no end of what still goes on.
+        WayLeaves x = withSpans(8);
+        x.leave(4, 0, 0, 0, -1);
+        x.leave(1, 0, 0, 0, -1);
+        x.leave(0, 0, 0, 0, -1);
+        x.sell(8, 1, 365);
+        x.appeal(0);
+        x.undo(0, 365);
+        for (int now = 364; now <= 366; now++) {
+            passTo(x, now);
+            due(9999, x.spanTold(0, 6));
+        }
+        // From changes in each of many DAYS to the last of them.
+        WayLeaves y = withSpans(8);
+        for (int n = 0; n < 23; n++) y.leave(4, 0, 0, 0, -1);
+        for (int n = 0; n < 23; n++) y.appeal(n);
+        for (int n = 0; n < 23; n++) y.undo(n, 1 + 2 * n);
+        for (int n = 0; n < 40; n++) y.sell(8, 1 + n % 9, 46 + n);
+        due(45, y.spanTold(0, 6));
+        y.leave(4, 0, 0, 0, -1);
+        due(1825, y.spanTold(0, 6));
+        y.pass(42);
+        y.appeal(23);
+        y.undo(23, 1000);
+        due(1000, y.spanTold(0, 6));
     }
 
     private static void endsBySaleAndOrder() {
@@ -579,7 +615,10 @@ public final class LandBoundariesTest extends Checks {
         for (int on : ons) x.leave(4, 0, 0, 0, on);
         for (int leave = 0; leave < 8; leave++) x.appeal(leave);
         int[] hang = {5, 3, 2, 1, 0, 1, 0, 0};
-        for (int leave = 0; leave < 8; leave++) due(hang[leave], x.undo(leave, 100 + leave));
+        for (int leave = 7; leave >= 0; leave--) {
+            due(2, x.has(0, 0));
+            due(hang[leave], x.undo(leave, 100 + leave));
+        }
         // What HANGS counts also if it is not IN FORCE, and of another SPAN none can.
         WayLeaves y = withSpans(8);
         y.leave(4, 0, 0, 0, -1);
@@ -663,6 +702,7 @@ public final class LandBoundariesTest extends Checks {
         check("terms 2, SAG", LandBoundariesTest::sag);
         check("terms 2, NEAR", LandBoundariesTest::nearAndTooNear);
         check("terms 3, ENDS", LandBoundariesTest::ends);
+        check("terms 3, ENDS from DAY on", LandBoundariesTest::endsFromTheDayOn);
         check("terms 3, ENDS by SALES", LandBoundariesTest::endsBySaleAndOrder);
         check("promise 13", LandBoundariesTest::leave);
         check("promise 14", LandBoundariesTest::leaveTold);

@@ -26,7 +26,7 @@ public final class LanguageTest {
         int cell(int,int,int); int copy(int,int,int,int,int); int costs(int,int,int,int,int); int taken(int,int)""";
     private static final String[] FORBIDDEN = {
         "\\b(throws?|try|catch|synchronized|assert|Object|protected|double|float|volatile|native)\\b", "->", "::",
-        "System\\.(?!arraycopy)", "Exact\\b", "\\.values\\(", "hashCode", "toString", "getClass",
+        "System\\.(?!arraycopy)", "(Integer|Long)\\.[A-Z]", "Exact\\b", "\\.values\\(", "hashCode", "toString", "getClass",
         "import (?!java\\.util\\.(Arrays|ArrayList|List);)"};
     private static int wrong = 0;
 

@@ -102,6 +102,17 @@ public final class TextBoundariesTest extends Checks {
         due(3, x.text());
         due(160, feed(x, full + "a"));
         due(-259, x.text());
+        due(160, feed(x, full.substring(0, 158) + " 2"));
+        due(-259, x.text());
+        due(160, feed(x, full + "+"));
+        due(-260, x.text());
+        due(160, feed(x, full.substring(0, 158) + "+2"));
+        due(-260, x.text());
+        // What an earlier TEXT left behind the end does not count.
+        due(-105, text(x, "pays 12345;sum 1;"));
+        due(-106, text(x, "pays 1"));
+        due(-105, text(x, "pays nearer;sum 1;"));
+        due(-109, text(x, "pays near"));
     }
 
     private static void tooEarly() {
@@ -122,11 +133,16 @@ public final class TextBoundariesTest extends Checks {
         String[] names = {"day", "span", "near", "trees", "house", "worth"};
         for (String name : names) {
             due(-101, fault("pays " + name + ";sum 1;"));
-            due(5, fault("pays " + name + "s;sum 1;"));
+            for (char c : new char[] {'a', 's', 'z'}) {
+                due(5, fault("pays " + name + c + ";sum 1;"));
+                due(5, fault("pays " + c + name + ";sum 1;"));
+            }
             due(5, fault("pays " + name.substring(1) + ";sum 1;"));
             due(5, fault("pays " + name.substring(0, name.length() - 1) + ";sum 1;"));
             due(5, fault("pays " + name.toUpperCase() + ";sum 1;"));
-            due(5 + name.length(), fault("pays " + name + "_;sum 1;"));
+            for (char c : new char[] {'`', '{', '_', 'A', 'Z', 0, 9, 127, 128, 225, 255}) {
+                due(5 + name.length(), fault("pays " + name + c + ";sum 1;"));
+            }
             due(5 + name.length(), fault("pays " + name + "1;sum 1;"));
         }
         for (String key : new String[] {"pays", "sum", "or", "and"}) due(5, fault("pays " + key + ";sum 1;"));
@@ -351,6 +367,9 @@ public final class TextBoundariesTest extends Checks {
         x.claim(2, 1, 0);
         due(24, x.doubled());
         due(10, x.due(1));
+        x.claim(2, 1, 7);
+        due(24 + 64, x.doubled());
+        due(5, x.due(2));
     }
 
     private static void dueEdges() {
@@ -417,6 +436,7 @@ public final class TextBoundariesTest extends Checks {
         for (int i = 0; i < priceAndLikeness.length; i += 2) x.look(5, priceAndLikeness[i], priceAndLikeness[i + 1]);
         due(lower, x.bounds(5, 0));
         due(upper, x.bounds(5, 1));
+        for (int what = 0; what < 2; what++) due(1, x.bounds(6, what));
     }
 
     private static void bounds() {

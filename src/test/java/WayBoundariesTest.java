@@ -491,6 +491,13 @@ public final class WayBoundariesTest extends Checks {
         refused(-13, x -> x.taken(2, 2));
         refused(-13, x -> x.taken(3, 5));
         refused(-13, x -> x.taken(7, 4));
+        // For one of its own KIND, and of each that it is under, also by others between.
+        String[] above = {"0", "10", "20", "310", "420", "520"};
+        WayLeaves x = withSpans(8, 9);
+        for (int kind = 0; kind < 6; kind++) {
+            due(kind, x.leave(kind, 1, 0, 0, -1));
+            for (int k = 0; k < 6; k++) due(above[kind].indexOf('0' + k) < 0 ? -13 : 1, x.taken(kind, k));
+        }
     }
 
     public static void main(String[] args) {
