@@ -42,7 +42,7 @@ public final class TextBoundariesTest extends Checks {
     private static void textTillFull() {
         WayLeaves x = withSpans(8);
         for (int n = 1; n < 6; n++) {
-            due(n, text(x, "pays 0;sum 10" + n + ";"));
+            due(n, text(x, "pays " + n + ";sum 10" + n + ";"));
             due(0, x.count(8));
             due(n + 1, x.count(7));
         }
@@ -58,6 +58,7 @@ public final class TextBoundariesTest extends Checks {
         due(6, x.count(7));
         for (int n = 1; n < 6; n++) {
             due(n - 1, x.force(n));
+            due(n, x.says(0, 0));
             due(100 + n, x.says(0, 1));
         }
         refused(FULL, Fill::texts, WayLeaves::text);
