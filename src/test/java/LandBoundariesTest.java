@@ -379,7 +379,15 @@ public final class LandBoundariesTest extends Checks {
             passTo(x, now);
             due(9999, x.spanTold(0, 6));
         }
-        // From changes in each of many DAYS to the last of them.
+        // As many changes as there can be, each in a DAY of its own: SALES, UNDONE ones, what has LASTED.
+        WayLeaves z = withSpans(8);
+        for (int n = 0; n < 23; n++) z.leave(4, 0, 0, n, -1);
+        z.leave(1, 0, 0, 0, -1);
+        z.pass(22);
+        for (int n = 0; n < 23; n++) due(1, z.appeal(n));
+        for (int n = 0; n < 23; n++) due(0, z.undo(n, 100 + n));
+        for (int n = 0; n < 40; n++) z.sell(8, 1 + n % 9, 200 + n);
+        due(9999, z.spanTold(0, 6));
         WayLeaves y = withSpans(8);
         for (int n = 0; n < 23; n++) y.leave(4, 0, 0, 0, -1);
         for (int n = 0; n < 23; n++) y.appeal(n);
