@@ -517,8 +517,9 @@ public final class WayLeaves {
 
         int sag(int span) {
             int length = lengths[span];
-            int byHeat = length * (heats[span] - FIRST_HEAT) / 1000;
-            return Math.max(0, length * length / 10000 + byHeat);
+            // Each quotient is cut for itself, ahead of the sum.
+            int both = length * length / 10000 + length * (heats[span] - FIRST_HEAT) / 1000;
+            return both < 0 ? 0 : both;
         }
 
         int low(int span) {
